@@ -414,6 +414,13 @@ public final class PromisesTest {
         Due.is("JUMP into what came later: sound()", late.sound(), true);
         FuelGate full = fullOfPushes();
         Due.is("24 instructions with STOP at the end: sound()", full.sound(), true);
+        FuelGate dropped = Ops.program(Ops.STOP, 0, Ops.STOP, 0);
+        dropped.clear();
+        dropped.emit(Ops.COST, 0);
+        Due.is("on into a STOP that was dropped: sound()", dropped.sound(), false);
+        dropped.clear();
+        dropped.emit(Ops.JUMP, 1);
+        Due.is("JUMP to a STOP that was dropped: sound()", dropped.sound(), false);
     }
 
     private static void promise7Clash() {
@@ -470,6 +477,7 @@ public final class PromisesTest {
         Due.is("height(2) when it has become sound", unsound.height(2), 0);
         Due.is("height(8) at the ceiling", behindPushes(8, Ops.COST).height(8), 8);
         Due.is("height(23) of 24", fullOfPushes().height(23), 1);
+        Due.is("height(24) of 24", fullOfPushes().height(24), FuelGate.BAD_PLACE);
     }
 
     private static void promise9State() {
