@@ -9,9 +9,20 @@ final class Due {
     static void is(String what, long got, long want) {
         asked++;
         if (got != want) {
-            wrong++;
-            System.out.println(what + " answered " + got + ", due is " + want);
+            tellWrong(what, String.valueOf(got), String.valueOf(want));
         }
+    }
+
+    static void is(String what, String got, String want) {
+        asked++;
+        if (!got.equals(want)) {
+            tellWrong(what, got, want);
+        }
+    }
+
+    private static void tellWrong(String what, String got, String want) {
+        wrong++;
+        System.out.println(what + " answered " + got + ", due is " + want);
     }
 
     static void is(String what, boolean got, boolean want) {

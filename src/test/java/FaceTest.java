@@ -60,6 +60,9 @@ public final class FaceTest {
         Due.is("the class being public", Modifier.isPublic(FuelGate.class.getModifiers()), true);
         Due.is("the class being final", Modifier.isFinal(FuelGate.class.getModifiers()), true);
         Due.is("the nested classes", FuelGate.class.getDeclaredClasses().length, 0);
+        Due.is("the class inheriting from Object alone", FuelGate.class.getSuperclass() == Object.class, true);
+        Due.is("the interfaces", FuelGate.class.getInterfaces().length, 0);
+        Due.is("the package's name", FuelGate.class.getPackageName(), "");
     }
 
     private static void addUnlessPrivate(Set<String> members, int modifiers, String text) {
